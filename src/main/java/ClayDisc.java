@@ -1596,6 +1596,8 @@ public final class ClayDisc {
         int size;
         private final int[] pairs = new int[MOST_CLAIMS * MOST_CLAIMS];
         private final int[] depths = new int[1 << MOST_CLAIMS];
+        private final int[] yes = new int[FINDS];
+        private final int[] no = new int[FINDS];
         private int pairCount;
 
         boolean has(int claim) {
@@ -1662,24 +1664,25 @@ public final class ClayDisc {
          * and each is parted into lesser ones.
          */
         int depth(int some, int finds) {
-            for (int set = 0; set <= some; set++) {
-                depths[set] = 0;
+            for (int find = 0; find < FINDS; find++) {
+                boolean open = (finds >> find & 1) != 0;
+                yes[find] = open ? saying(find, 1) : 0;
+                no[find] = open ? saying(find, 2) : 0;
             }
             for (int set = 0; set <= some; set++) {
                 if ((set & ~some) == 0) {
-                    depths[set] = depthOf(set, finds);
+                    depths[set] = depthOf(set);
                 }
             }
             return depths[some];
         }
 
-        private int depthOf(int set, int finds) {
+        private int depthOf(int set) {
             int fewest = FINDS + 1;
             for (int find = 0; find < FINDS; find++) {
-                int yes = (finds >> find & 1) != 0 ? saying(find, 1) & set : 0;
-                int no = (finds >> find & 1) != 0 ? saying(find, 2) & set : 0;
-                if (yes != 0 && no != 0) {
-                    fewest = Math.min(fewest, 1 + Math.max(depths[set & ~no], depths[set & ~yes]));
+                if ((yes[find] & set) != 0 && (no[find] & set) != 0) {
+                    int worst = Math.max(depths[set & ~no[find]], depths[set & ~yes[find]]);
+                    fewest = Math.min(fewest, 1 + worst);
                 }
             }
             return fewest > FINDS ? 0 : fewest;

@@ -82,6 +82,12 @@ final class Check {
         }
     }
 
+    /** All words of a tongue go, and others come. */
+    static void forget(ClayDisc x, int tongue, String... texts) {
+        x.forget(tongue);
+        words(x, tongue, texts);
+    }
+
     static int laxness(ClayDisc x, String text) {
         x.end(0);
         tell(x, text);

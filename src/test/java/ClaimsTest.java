@@ -212,8 +212,13 @@ public final class ClaimsTest {
         x.find(8, 2);
         Check.due("and throws one out", x.plan(), 0);
         x.find(8, 0);
+        x.find(0, 1);
+        Check.due("the first is known", x.plan(), 0);
         x.find(0, 2);
         // Claim 0 falls, so that find 8 alone is spoken of by one that stands.
         Check.due("one that has fallen does not count", x.plan(), 0);
+        x = told("1111111110", "1111111120");
+        x.find(0, 1);
+        Check.due("8 unknown, the first is known", x.plan(), 1);
     }
 }

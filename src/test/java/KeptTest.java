@@ -27,6 +27,8 @@ public final class KeptTest {
         Check.laxness(x, "h3d2b");
         x.over(1, 0);
         x.find(3, 1);
+        x.find(0, 2);
+        x.find(11, 2);
         x.claim();
         x.says(0, 0, 1);
         Check.words(x, 1, "AB");
@@ -37,6 +39,8 @@ public final class KeptTest {
         x.over(3, 4);
         x.find(3, 2);
         x.find(4, 1);
+        x.find(0, 0);
+        x.find(11, 1);
         x.says(0, 0, 2);
         x.claim();
         x.seed(55);
@@ -54,6 +58,8 @@ public final class KeptTest {
         Check.due("other overs are gone", x.over(0, 1), 2);
         Check.due("find 3", x.find(3, 2), 1);
         Check.due("find 4", x.find(4, 2), 0);
+        Check.due("find 0", x.find(0, 1), 2);
+        Check.due("find 11", x.find(11, 1), 2);
         Check.due("claims are not kept", x.says(0, 0, 0), 2);
         Check.due("R is not kept", x.seed(1), 55);
         Check.due("what came behind changes nothing kept", x.again(0), true);

@@ -24,6 +24,9 @@ public final class KindsTest {
         x = disc("ab?-?al-?");
         Check.due("kinds", x.kinds(), 3);
         Check.dueRow("kinds", x, 2, 1, 0, 0, 0, 0, 0, 0, 0, 0, 0, 1, 3);
+        x.way();
+        Check.due("kinds behind another ROW", x.kinds(), 3);
+        Check.dueRow("kinds behind another ROW", x, 2, 1, 0, 0, 0, 0, 0, 0, 0, 0, 0, 1, 3);
     }
 
     private static void many() {
@@ -57,11 +60,15 @@ public final class KindsTest {
         Check.due("201", x.script(5, 201), -1);
         Check.due("-1", x.script(5, -1), -1);
         Check.due("one sign: alike whatever they are", disc("a").script(1, 200), 2);
+        Check.due("one sign: alike the other way too", disc("a").script(200, 1), 2);
         // 2 of 3 signs: (n - 1) by n n, which is 2 by 9 for 3 and 3 by 16 for 4.
         Check.due("two of three", disc("aab").script(4, 3), 1);
         // 3 of 4 signs: (n - 1) (n - 2) by n n n: 2 by 27 for 3, and 6 by 81 nowhere: 9 has 56 by 729.
         Check.due("three of four", x.script(3, 9), 1);
         Check.due("three of four, far off", x.script(3, 12), 0);
+        Check.due("far off, just enough", x.script(12, 3), 1);
+        Check.due("just enough, too few", x.script(3, 2), 0);
+        Check.due("too few, just enough", x.script(2, 3), 1);
     }
 
     private static void likes() {
@@ -73,6 +80,9 @@ public final class KindsTest {
         x = disc("aa");
         x.like();
         Check.dueRow("two like", x, 1, 1);
+        x = disc("a?-?b?");
+        x.like();
+        Check.dueRow("? are not alike", x, 0, 1);
         x = disc("aab?-bac");
         // a 3, b 2, c 1: 3 and 1 of 15 pairs.
         Check.due("like", x.like(), 0);
@@ -88,6 +98,9 @@ public final class KindsTest {
         // 4 + 9 + 1 by 36: squared .15123456..., three times, each cut.
         Check.due("one pair", x.repeat(), 1);
         Check.dueRow("one pair", x, 453702);
+        x = disc("abcdef-ghijkl");
+        Check.due("less than one part", x.repeat(), 0);
+        Check.dueRow("less than one part", x, 0);
         x = disc("a-a-a?-a?-bb");
         // a 4, b 2: 20 by 36 = 5 by 9; the groups with ? count in no pair, bb has none as long.
         Check.due("? in no pair", x.repeat(), 1);
@@ -139,6 +152,10 @@ public final class KindsTest {
         Check.dueRow("never", x, 0, 1);
         Check.due("must", x.axe(5, 4, 3, 2), 0);
         Check.dueRow("must", x, 1, 1);
+        Check.due("all are the disc's", x.axe(7, 7, 3, 3), 0);
+        Check.dueRow("all are the disc's", x, 1, 1);
+        Check.due("all are drawn", x.axe(7, 3, 7, 4), 0);
+        Check.dueRow("all are drawn", x, 0, 1);
         Check.due("no signs", x.axe(1, 0, 0, 0), 0);
         Check.dueRow("no signs", x, 1, 1);
         // 45, of which 10 are the disc's, 4 drawn: C(10,4) by C(45,4) = 210 by 148995 = 2 by 1419.

@@ -172,6 +172,13 @@ public final class OrdersTest {
         x.over(4, 5);
         Check.due("three rings", x.mend(), 2);
         Check.dueRow("three rings", x, 2 + 32);
+        x = disc("abcdef-abcdef-a");
+        for (int p = 12; p > 0; p--) {
+            x.over(p, p - 1);
+        }
+        Check.due("a chain of twelve", x.mend(), 0);
+        Check.due("the first of a chain of twelve", x.ends(0), 1);
+        Check.due("the last of a chain of twelve", x.ends(1), 4096);
         x = disc("abcdef-abcdef-abcdef");
         for (int p = 5; p < 17; p += 2) {
             x.over(p, p + 1);

@@ -64,6 +64,7 @@ public final class ReadingsTest {
         Check.due("the ROW still stays", x.count(11), 13);
         Check.disc(x, "?");
         Check.due("? is no kind to ask of", x.letters(0, 12), -1);
+        Check.due("a is not there", x.letters(0, 0), -1);
     }
 
     private static void refused(ClayDisc x, int tongue, String why) {
@@ -107,9 +108,9 @@ public final class ReadingsTest {
         x = told("h1d0", "aba", "ABA", "AAB", "BAB", "ABC", "ABAB");
         Check.due("a kind twice in a group", x.readings(0), 2);
         Check.due("two steps", x.count(13), 2);
-        x = told("h1d0", "l-a", "H", "A");
-        Check.due("kinds a and l", x.readings(0), 2);
-        Check.dueRow("a before l", x, 0, -1, -1, -1, -1, -1, -1, -1, -1, -1, -1, 7);
+        x = told("h1d0", "l-a", "H", "A", "B");
+        Check.due("kinds a and l", x.readings(0), 6);
+        Check.dueRow("a before l", x, 0, -1, -1, -1, -1, -1, -1, -1, -1, -1, -1, 1);
     }
 
     private static void inOrder() {
@@ -161,6 +162,10 @@ public final class ReadingsTest {
         Check.due("sure, no reading", x.sure(3), -2);
         Check.dueRow("the ROW stays", x, letters(0));
         Check.due("letters, no reading", x.letters(3, 0), 0);
+        x = told("h1d0", "ab", "AB", "CB");
+        x.way();
+        Check.due("sure of b", x.sure(0), 2);
+        Check.dueRow("sure of b", x, letters(-1, 1));
         x = told("h2d0", "h-a", "H");
         Check.due("sure of all", x.sure(0), 129);
         Check.dueRow("sure of all", x, letters(7, -1, -1, -1, -1, -1, -1, 7));
@@ -185,9 +190,17 @@ public final class ReadingsTest {
         Check.words(x, 3, "CD", "DC", "A");
         Check.due("the first of equal ones", x.tongues(), 2);
         Check.dueRow("tongues", x, 1, -1, 2, 2);
+        Check.disc(x, "ab-cd");
+        Check.words(x, 0, "CD");
+        Check.due("of some that let none", x.tongues(), 0);
+        Check.dueRow("of some that let none", x, 2, -1, 0, 0);
+        Check.forget(x, 0, "ABC");
+        Check.disc(x, "abc");
+        Check.due("one of one", x.tongues(), 0);
+        Check.dueRow("one of one", x, 1, -1, 0, 0);
         Check.disc(x, "abcdef");
         Check.due("none lets any", x.tongues(), -2);
-        Check.dueRow("the ROW stays", x, 1, -1, 2, 2);
+        Check.dueRow("the ROW stays", x, 1, -1, 0, 0);
     }
 
     private static void leastLaxness() {
@@ -224,6 +237,8 @@ public final class ReadingsTest {
         // ab: 3 ways; ba: 2; cb: a A, b B, c C alone (a B, b A: none ends in A but BA).
         Check.due("need", x.need(0), 3);
         Check.dueRow("need", x, 3, 2, 1);
+        Check.disc(x, "ab-ba-cb");
+        Check.due("need all of them", x.need(0), 3);
         Check.disc(x, "ab-ba");
         Check.due("all of them have more", x.need(0), -2);
         Check.dueRow("the ROW stays", x, 3, 2, 1);
@@ -284,6 +299,8 @@ public final class ReadingsTest {
         Check.dueRow("each anew from the disc", x, due);
         Check.due("R goes on", x.seed(1), r);
         Check.due("the disc stays", x.at(1), 1);
+        Check.due("one text", x.chance(0, 1), readable > 0 && due[0] > 0 ? 1 : 0);
+        Check.due("one text", x.count(11), 1);
         x.seed(-5);
         Check.due("one place, no draw", Check.disc(x, "a"), 1);
         x.chance(0, 3);
@@ -298,6 +315,11 @@ public final class ReadingsTest {
         Check.dueRow("the ROW stays", x, 1);
         Check.disc(x, "??");
         Check.due("no kind", x.next(0), -2);
+        Check.disc(x, "ab");
+        Check.forget(x, 0, "AB", "BC", "CC", "DB");
+        // a: one each; b: B twice (cc is no way with one home).
+        Check.due("a parts all", x.next(0), 0);
+        Check.dueRow("a parts all", x, 1);
         x = told("h1d0", "cd", "AB", "AC", "BC");
         // c: A twice; d: C twice: the first of equal ones.
         Check.due("the first of equal ones", x.next(0), 2);
