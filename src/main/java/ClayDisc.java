@@ -266,9 +266,7 @@ public final class ClayDisc {
                 best = tongue;
             }
         }
-        if (best != NOTHING) {
-            numbers.take(draft);
-        }
+        numbers.take(draft);
         return best;
     }
 

@@ -343,9 +343,7 @@ final class Naive {
                 best = tongue;
             }
         }
-        if (best >= 0) {
-            row = told;
-        }
+        row = told;
         return best;
     }
 

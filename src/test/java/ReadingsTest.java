@@ -200,7 +200,20 @@ public final class ReadingsTest {
         Check.dueRow("one of one", x, 1, -1, 0, 0);
         Check.disc(x, "abcdef");
         Check.due("none lets any", x.tongues(), -2);
-        Check.dueRow("the ROW stays", x, 1, -1, 0, 0);
+        Check.dueRow("none lets any: the ROW is told", x, 0, -1, 0, 0);
+        for (int tongue = 0; tongue < 4; tongue++) {
+            x.forget(tongue);
+        }
+        x.kinds();
+        Check.due("no words", x.tongues(), -2);
+        Check.dueRow("no words", x, -1, -1, -1, -1);
+        Check.words(x, 3, "A");
+        Check.due("words of the last one alone", x.tongues(), -2);
+        Check.dueRow("words of the last one alone", x, -1, -1, -1, 0);
+        x = new ClayDisc();
+        x.kinds();
+        Check.due("no groups", x.tongues(), -1);
+        Check.due("no groups: the ROW stays", x.count(11), 13);
     }
 
     private static void leastLaxness() {
