@@ -100,6 +100,13 @@ final class Check {
         return x.second(tongue);
     }
 
+    /** So many groups of the same signs. */
+    static String groups(String group, int n) {
+        String[] all = new String[n];
+        Arrays.fill(all, group);
+        return String.join("-", all);
+    }
+
     static void over(String name) {
         System.out.println(name + ": " + asked + " asked, " + wrong + " wrong");
         if (wrong != 0) {
