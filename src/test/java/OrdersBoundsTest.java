@@ -322,6 +322,10 @@ public final class OrdersBoundsTest {
         Check.due("one for two rings", x.mend(), 1);
         Check.dueRow("one for two rings", x, 16);
         Check.due("OVERS stay", x.count(9), 5);
+        // 1 with 4, 2 with 3, 2 with 4: 12 is the least as bits, though 1 with 4 begins ahead of it.
+        x = disc("abc", 1, 0, 2, 0, 0, 2, 1, 2, 2, 1);
+        Check.due("2 with 3", x.mend(), 2);
+        Check.dueRow("2 with 3", x, 12);
     }
 
     private static void mendOfTwelve() {
