@@ -34,6 +34,7 @@ public final class ClaimsBoundsTest {
         partThatAllOfThemDoNot();
         partTheLeastOfAsFew();
         partOfTenClaims();
+        partOfAllFinds();
         planOfNoPair();
         planOf8And9Finds();
         planOfSpokenFindsAlone();
@@ -579,6 +580,26 @@ public final class ClaimsBoundsTest {
         Check.dueRow("nine FINDS for ten CLAIMS", x, 511 << 3);
         x.says(9, 11, 0);
         Check.due("the last pair is not parted", x.part(), -2);
+    }
+
+    /** Six CLAIMS are 15 pairs: each FIND parts a pair, or two, that no other one does. */
+    private static void partOfAllFinds() {
+        int[][] parted = {{0, 1, 2}, {0, 3, 4}, {0, 5}, {1, 2, 3}, {1, 4}, {1, 5}, {2, 3}, {2, 4}, {2, 5}, {3, 4}, {3, 5}, {4, 5}};
+        ClayDisc x = told("", "", "", "", "", "");
+        for (int find = 0; find < 12; find++) {
+            for (int i = 0; i < parted[find].length; i++) {
+                x.says(parted[find][i], find, i == 0 ? 1 : 2);
+            }
+        }
+        Check.due("all twelve FINDS", x.part(), 12);
+        Check.dueRow("all twelve FINDS", x, 4095);
+        x.says(5, 11, 1);
+        Check.due("one pair is not parted any more", x.part(), -2);
+        x.says(5, 11, 2);
+        x.says(2, 11, 1);
+        x.says(1, 11, 1);
+        Check.due("the last FIND parts 5 from 1, 2 and 4", x.part(), 10);
+        Check.dueRow("the last FIND parts 5 from 1, 2 and 4", x, 4095 - 32 - 256);
     }
 
     private static void planOfNoPair() {

@@ -10,6 +10,7 @@ public final class KeptBoundsTest {
         keepOfAsMuchAsThereMayBe();
         keepIsNotChangedByWhatComesBehind();
         keepOverWhatIsKept();
+        againWithTheGroupsThatWereKept();
         againOfNothingKept();
         againOfWhatIsKeptAlone();
         countOfOthers();
@@ -206,6 +207,33 @@ public final class KeptBoundsTest {
         for (int find = 0; find < 12; find++) {
             Check.due("FIND " + find, x.find(find, 0), 0);
         }
+    }
+
+    /** As many PLACES as before, but in other GROUPS: what hangs on them must be as it was kept. */
+    private static void againWithTheGroupsThatWereKept() {
+        ClayDisc x = new ClayDisc();
+        Check.disc(x, "ab-ab");
+        x.over(1, 0);
+        x.over(2, 1);
+        x.over(2, 3);
+        x.keep(1);
+        Check.disc(x, "a-ba-b");
+        x.over(1, 0);
+        x.over(2, 1);
+        x.over(2, 3);
+        x.way();
+        Check.dueRow("PLACES 1 and 2 are of one GROUP", x, 1, 0);
+        x.keep(0);
+        x.again(1);
+        x.way();
+        Check.dueRow("PLACES 0 and 1, 2 and 3 are", x, 1, 1);
+        Check.due("both end with ab", x.rhyme(0, 2), 1);
+        Check.due("both are alike", x.repeat(), 1);
+        x.again(0);
+        x.way();
+        Check.dueRow("PLACES 1 and 2 again", x, 1, 0);
+        Check.due("one alone has two signs", x.rhyme(0, 2), 0);
+        Check.due("GROUPS", x.count(0), 3);
     }
 
     private static void againOfNothingKept() {

@@ -235,6 +235,14 @@ public final class KindsBoundsTest {
         x = disc("ab-ab");
         Check.due("one sign too short", x.rhyme(1, 3), 0);
         Check.dueRow("one sign too short", x, 0);
+        // Signs of the GROUP beside do not count.
+        for (String text : new String[] {"ab-a-b", "a-b-ab", "a-ab-b", "a-b-a-b"}) {
+            for (int what = 0; what <= 1; what++) {
+                x = disc(text);
+                Check.due(text + ": one GROUP alone has two signs, or none", x.rhyme(what, 2), 0);
+                Check.dueRow(text, x, 0);
+            }
+        }
     }
 
     private static void rhymeWithoutUnseen() {

@@ -22,6 +22,7 @@ public final class ReadingsBoundsTest {
         tonguesOfNone();
         tonguesPastTheSteps();
         laxInOrder();
+        laxOfUnseenAlone();
         laxOfNone();
         laxPastTheSteps();
         needFromOneToAll();
@@ -371,6 +372,8 @@ public final class ReadingsBoundsTest {
         Check.laxness(x, "h1d1");
         Check.disc(x, "?");
         Check.due("with DROPS all", x.means(0, 0), (1 << 20) - 1);
+        Check.forget(x, 0, "AB");
+        Check.due("forgotten ones no more", x.means(0, 0), 1);
     }
 
     private static void tonguesTheFirstOfEqualOnes() {
@@ -435,6 +438,20 @@ public final class ReadingsBoundsTest {
             Check.dueRow(words[from], x, due[from][0], due[from][1]);
             Check.due("THE LAXNESS stays", x.count(6) * 10 + x.count(7), 32);
         }
+    }
+
+    private static void laxOfUnseenAlone() {
+        ClayDisc x = told("h3d2", "?", "AB");
+        Check.due("no KIND needs a HOME, but one is the least", x.lax(0), 1);
+        Check.dueRow("no KIND needs a HOME, but one is the least", x, 1, 1);
+        Check.words(x, 0, "A");
+        Check.due("without DROPS", x.lax(0), 1);
+        Check.dueRow("without DROPS", x, 1, 0);
+        Check.forget(x, 0, "ABC");
+        Check.due("with both DROPS", x.lax(0), 1);
+        Check.dueRow("with both DROPS", x, 1, 2);
+        Check.forget(x, 0, "ABCD");
+        Check.due("one LETTER too many", x.lax(0), -2);
     }
 
     private static void laxOfNone() {
